@@ -43,8 +43,8 @@ public final class MinuteSignal {
     private final History history = new History();
     private final Held[] images = new Held[IMAGES];
     private final boolean[] imageKept = new boolean[IMAGES];
-    private final Frames frames = new Frames();
-    private final Vote vote = new Vote();
+    private final Frames framesNow = new Frames();
+    private final Vote voteNow = new Vote();
     private boolean framesFit;
     private boolean voteFits;
 
@@ -306,18 +306,18 @@ public final class MinuteSignal {
 
     private Frames fittingFrames() {
         if (!framesFit) {
-            frames.cut(now);
+            framesNow.cut(now);
             framesFit = true;
         }
-        return frames;
+        return framesNow;
     }
 
     private Vote fittingVote() {
         if (!voteFits) {
-            vote.take(fittingFrames());
+            voteNow.take(fittingFrames());
             voteFits = true;
         }
-        return vote;
+        return voteNow;
     }
 
     private boolean isShown() {
@@ -600,6 +600,7 @@ public final class MinuteSignal {
     private static final class Vote {
         static final int HOUR_SIGNS = HOURS * SIGNS;
         static final int MINUTES_LEFT_OUT = FRAME_MASK & ~MINUTE_MASK;
+        static final int MORE_THAN_ANY = FRAME_LIMIT * FRAME_LENGTH + 1;
 
         final int[] misses = new int[TIMES];
         final int[] byMinute = new int[HOUR];
@@ -663,7 +664,7 @@ public final class MinuteSignal {
         void choose() {
             best = 0;
             fewest = misses[0];
-            int second = Integer.MAX_VALUE;
+            int second = MORE_THAN_ANY;
             for (int time = 1; time < TIMES; time++) {
                 int here = misses[time];
                 if (here < fewest) {
