@@ -2,15 +2,21 @@
 final class Due {
     private static int checked = 0;
     private static int wrong = 0;
+    private static String sentence = "";
 
     private Due() {
+    }
+
+    /** The document's words that the checks behind this one are about; they are printed with what fails. */
+    static void says(String words) {
+        sentence = "[" + words + "] ";
     }
 
     static void is(String call, long got, long want) {
         checked++;
         if (got != want) {
             wrong++;
-            System.out.println(call + " answered " + got + ", due is " + want);
+            System.out.println(sentence + call + " answered " + got + ", due is " + want);
         }
     }
 
@@ -18,7 +24,7 @@ final class Due {
         checked++;
         if (!holds) {
             wrong++;
-            System.out.println(what + " does not hold");
+            System.out.println(sentence + what + " does not hold");
         }
     }
 

@@ -7,8 +7,9 @@ import java.util.Random;
 
 /** Random runs of calls, each answer held against a model that follows the document word by word. */
 final class ModelTest {
-    private static final int RUNS = 120;
-    private static final int CALLS = 512;
+    private static final int RUNS = 160;
+    /** An object is used for 512 calls at most; 127 of them look at the end of a run. */
+    private static final int CALLS = 385;
     private static final String[] NAMES = {"hears", "frames", "loses", "needs", "drifts", "sets", "goes", "undo",
         "symbol", "read", "vote", "misses", "close", "bits", "clock", "keep", "back", "count"};
     /** How often each call is made, in the order of the names. */

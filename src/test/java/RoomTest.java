@@ -3,21 +3,28 @@ import java.lang.management.ManagementFactory;
 
 /** All calls of a run share one room: an object's rows are made with it, and no call makes more. */
 final class RoomTest {
-    private static final int ROUNDS = 200;
+    private static final int OBJECTS = 30;
+    /** An object is used for 512 calls at most, and a round has some 75. */
+    private static final int ROUNDS = 6;
 
     public static void main(String[] args) {
         ThreadMXBean threads = (ThreadMXBean) ManagementFactory.getThreadMXBean();
-        MinuteSignal x = new MinuteSignal();
-        useAll(x);
+        MinuteSignal[] objects = new MinuteSignal[OBJECTS];
+        for (int i = 0; i < OBJECTS; i++) {
+            objects[i] = new MinuteSignal();
+        }
+        useAll(new MinuteSignal());
         long before = threads.getCurrentThreadAllocatedBytes();
         long sum = 0;
-        for (int i = 0; i < ROUNDS; i++) {
-            sum += useAll(x);
+        for (MinuteSignal x : objects) {
+            for (int i = 0; i < ROUNDS; i++) {
+                sum += useAll(x);
+            }
         }
         long made = threads.getCurrentThreadAllocatedBytes() - before;
         Due.isTrue("calls were made, " + sum, sum != 0);
         // the reading itself may make a little
-        Due.isTrue(ROUNDS + " rounds of all calls make nothing, not " + made + " bytes", made < 4096);
+        Due.isTrue("rounds of all calls on " + OBJECTS + " objects make nothing, not " + made + " bytes", made < 4096);
         before = threads.getCurrentThreadAllocatedBytes();
         MinuteSignal y = new MinuteSignal();
         made = threads.getCurrentThreadAllocatedBytes() - before;
