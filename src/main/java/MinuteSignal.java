@@ -594,18 +594,18 @@ public final class MinuteSignal {
      *
      * <p>The minute of the hour goes round by itself, and there are fewer frames than an hour has
      * minutes, so the hour and the signs change once at most. The misses of a TIME are thus the sum
-     * of a part by its minute and two parts by its hour and signs, before and from the full hour on:
-     * far fewer parts to count than there are TIMES.
+     * of a part by its minute and a part by its hour and signs: far fewer parts to count, and to
+     * keep in an object, than there are TIMES.
      */
     private static final class Vote {
         static final int HOUR_SIGNS = HOURS * SIGNS;
         static final int MINUTES_LEFT_OUT = FRAME_MASK & ~MINUTE_MASK;
         static final int MORE_THAN_ANY = FRAME_LIMIT * FRAME_LENGTH + 1;
 
-        final int[] misses = new int[TIMES];
         final int[] byMinute = new int[HOUR];
-        /** At [n][hour and signs]: the misses of the first n frames outside of their minutes. */
+        /** At [n][hour and signs]: outside of the minutes, if n frames come before the full hour. */
         final int[][] byHour = new int[FRAME_LIMIT + 1][HOUR_SIGNS];
+        int count;
         int best;
         int fewest;
         int margin;
@@ -613,19 +613,17 @@ public final class MinuteSignal {
         int last;
 
         void take(Frames frames) {
+            count = frames.count;
             countByMinute(frames);
             countByHour(frames);
-            for (int hourSigns = 0; hourSigns < HOUR_SIGNS; hourSigns++) {
-                addUp(hourSigns, frames.count);
-            }
             choose();
-            last = Times.later(best, frames.count - 1);
+            last = Times.later(best, count - 1);
         }
 
         void countByMinute(Frames frames) {
             for (int minute = 0; minute < HOUR; minute++) {
                 int sum = 0;
-                for (int frame = 0; frame < frames.count; frame++) {
+                for (int frame = 0; frame < count; frame++) {
                     int bits = Times.bitsOf(SIGNS * ((minute + frame) % HOUR));
                     sum += frames.missesOf(frame, bits, MINUTE_MASK);
                 }
@@ -636,24 +634,17 @@ public final class MinuteSignal {
         void countByHour(Frames frames) {
             for (int hourSigns = 0; hourSigns < HOUR_SIGNS; hourSigns++) {
                 int bits = Times.bitsOf(timeAt(hourSigns, 0));
+                int bitsAfter = Times.bitsOf(Times.next(timeAt(hourSigns, HOUR - 1)));
                 int sum = 0;
-                for (int frame = 0; frame < frames.count; frame++) {
+                for (int frame = 0; frame < count; frame++) {
+                    sum += frames.missesOf(frame, bitsAfter, MINUTES_LEFT_OUT);
+                }
+                byHour[0][hourSigns] = sum;
+                for (int frame = 0; frame < count; frame++) {
                     sum += frames.missesOf(frame, bits, MINUTES_LEFT_OUT);
+                    sum -= frames.missesOf(frame, bitsAfter, MINUTES_LEFT_OUT);
                     byHour[frame + 1][hourSigns] = sum;
                 }
-            }
-        }
-
-        void addUp(int hourSigns, int count) {
-            int following = Times.next(timeAt(hourSigns, HOUR - 1));
-            int followingSigns = following / (SIGNS * HOUR) * SIGNS + following % SIGNS;
-            int time = timeAt(hourSigns, 0);
-            for (int minute = 0; minute < HOUR; minute++) {
-                int before = Math.min(count, HOUR - minute);
-                int beforeHour = byHour[before][hourSigns];
-                int fromHourOn = byHour[count][followingSigns] - byHour[before][followingSigns];
-                misses[time] = byMinute[minute] + beforeHour + fromHourOn;
-                time += SIGNS;
             }
         }
 
@@ -661,12 +652,18 @@ public final class MinuteSignal {
             return SIGNS * (HOUR * (hourSigns / SIGNS) + minute) + hourSigns % SIGNS;
         }
 
+        int missesAt(int time) {
+            int minute = Times.minuteOf(time) % HOUR;
+            int hourSigns = time / (SIGNS * HOUR) * SIGNS + time % SIGNS;
+            return byMinute[minute] + byHour[Math.min(count, HOUR - minute)][hourSigns];
+        }
+
         void choose() {
             best = 0;
-            fewest = misses[0];
+            fewest = missesAt(0);
             int second = MORE_THAN_ANY;
             for (int time = 1; time < TIMES; time++) {
-                int here = misses[time];
+                int here = missesAt(time);
                 if (here < fewest) {
                     second = fewest;
                     fewest = here;
@@ -681,7 +678,7 @@ public final class MinuteSignal {
         int closeCount(int w) {
             int found = 0;
             for (int time = 0; time < TIMES; time++) {
-                if (misses[time] <= w) {
+                if (missesAt(time) <= w) {
                     found++;
                 }
             }
@@ -691,7 +688,7 @@ public final class MinuteSignal {
         int closeTime(int w, int k) {
             int found = 0;
             for (int time = 0; time < TIMES; time++) {
-                if (misses[time] <= w) {
+                if (missesAt(time) <= w) {
                     if (found == k) {
                         return time;
                     }

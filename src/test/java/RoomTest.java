@@ -1,5 +1,10 @@
 import com.sun.management.ThreadMXBean;
 import java.lang.management.ManagementFactory;
+import java.lang.reflect.Array;
+import java.lang.reflect.Field;
+import java.lang.reflect.Modifier;
+import java.util.IdentityHashMap;
+import java.util.Map;
 
 /** All calls of a run share one room: an object's rows are made with it, and no call makes more. */
 final class RoomTest {
@@ -7,7 +12,11 @@ final class RoomTest {
     /** An object is used for 512 calls at most, and a round has some 75. */
     private static final int ROUNDS = 6;
 
-    public static void main(String[] args) {
+    private static final long CALLS = 513;
+    private static final long ROOM_OBJECTS = 600000;
+    private static final long ROOM_ELEMENTS = 7300000;
+
+    public static void main(String[] args) throws IllegalAccessException {
         ThreadMXBean threads = (ThreadMXBean) ManagementFactory.getThreadMXBean();
         MinuteSignal[] objects = new MinuteSignal[OBJECTS];
         for (int i = 0; i < OBJECTS; i++) {
@@ -25,11 +34,44 @@ final class RoomTest {
         Due.isTrue("calls were made, " + sum, sum != 0);
         // the reading itself may make a little
         Due.isTrue("rounds of all calls on " + OBJECTS + " objects make nothing, not " + made + " bytes", made < 4096);
-        before = threads.getCurrentThreadAllocatedBytes();
-        MinuteSignal y = new MinuteSignal();
-        made = threads.getCurrentThreadAllocatedBytes() - before;
-        Due.isTrue("an object's rows stay small, " + made + " bytes", y.count(0) == 0 && made < 80000);
+        newObjectsAreSmall();
         Due.end();
+    }
+
+    /** The dearest call makes a new object: a room must hold as many as an object may have calls. */
+    private static void newObjectsAreSmall() throws IllegalAccessException {
+        MinuteSignal x = new MinuteSignal();
+        Map<Object, Boolean> met = new IdentityHashMap<>();
+        long elements = elementsOf(x, met);
+        Due.isTrue(CALLS + " times " + met.size() + " objects are in the room", met.size() * CALLS < ROOM_OBJECTS);
+        Due.isTrue(CALLS + " times " + elements + " elements are in the room", elements * CALLS < ROOM_ELEMENTS);
+        Due.isTrue("the rows were found, " + elements, elements > 120);
+        useAll(x);
+        met.clear();
+        Due.is("elements of an object that was used", elementsOf(x, met), elements);
+    }
+
+    /** The fields and elements of an object and of all that it holds, each counted once. */
+    private static long elementsOf(Object x, Map<Object, Boolean> met) throws IllegalAccessException {
+        if (x == null || met.put(x, true) != null) {
+            return 0;
+        }
+        long sum = 0;
+        if (x.getClass().isArray()) {
+            sum = Array.getLength(x);
+            for (int i = 0; x instanceof Object[] row && i < row.length; i++) {
+                sum += elementsOf(row[i], met);
+            }
+            return sum;
+        }
+        for (Field field : x.getClass().getDeclaredFields()) {
+            if (Modifier.isStatic(field.getModifiers())) {
+                continue;
+            }
+            field.setAccessible(true);
+            sum += 1 + (field.getType().isPrimitive() ? 0 : elementsOf(field.get(x), met));
+        }
+        return sum;
     }
 
     private static long useAll(MinuteSignal x) {
