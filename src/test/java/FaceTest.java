@@ -2,26 +2,21 @@ import java.lang.reflect.Constructor;
 import java.lang.reflect.Field;
 import java.lang.reflect.Method;
 import java.lang.reflect.Modifier;
-import java.nio.file.Files;
-import java.nio.file.Path;
 import java.util.ArrayList;
 import java.util.Arrays;
 import java.util.List;
-import java.util.regex.Matcher;
-import java.util.regex.Pattern;
 
-/** The document's public face, and those rules of LANGUAGE.md that a look at the class can check. */
+/** The document's public face, and no other. */
 final class FaceTest {
     private static final String[] FACE = {
         "hears 1", "frames 2", "loses 1", "needs 1", "drifts 1", "sets 0", "goes 1", "undo 0", "symbol 1",
         "read 2", "vote 1", "misses 4", "close 2", "bits 4", "clock 1", "keep 1", "back 1", "count 1"};
 
-    public static void main(String[] args) throws Exception {
+    public static void main(String[] args) {
         constants();
         methods();
         constructors();
         fields();
-        source();
         Due.end();
     }
 
@@ -77,16 +72,5 @@ final class FaceTest {
                 Due.isTrue(field + " is final if static", !isStatic || Modifier.isFinal(field.getModifiers()));
             }
         }
-    }
-
-    private static void source() throws Exception {
-        String text = Files.readString(Path.of("src/main/java/MinuteSignal.java"));
-        String code = text.replaceAll("(?s)/\\*.*?\\*/", " ").replaceAll("//[^\n]*", " ");
-        Pattern ruledOut = Pattern.compile("\\b(throw|try|catch|synchronized|assert|import|package)\\b|->|::|\"");
-        Matcher found = ruledOut.matcher(code);
-        while (found.find()) {
-            Due.isTrue("the source without '" + found.group() + "'", false);
-        }
-        Due.isTrue("the source has signs 1 to 127 alone", text.chars().allMatch(c -> c > 0 && c < 128));
     }
 }
